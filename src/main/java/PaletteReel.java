@@ -31,6 +31,7 @@ public final class PaletteReel {
     private static final int LEAST_CODE_BITS = 2;
     private static final int MOST_CODE_BITS = 4;
     private static final int LAST_ENTRY = 63;
+    private static final int LAST_ENTRY_BITS = 6;
 
     private static final int[] PASS_STARTS = {0, 4, 2, 1};
     private static final int[] PASS_STEPS = {8, 8, 4, 2};
@@ -305,11 +306,6 @@ public final class PaletteReel {
             }
             count = wanted;
         }
-
-        void renew(int wanted) {
-            resize(0);
-            resize(wanted);
-        }
     }
 
     private static final class Frame {
@@ -393,7 +389,7 @@ public final class PaletteReel {
             width = newWidth;
             height = newHeight;
             count = 0;
-            shared.renew(colours);
+            shared.resize(colours);
         }
 
         /** The caller has looked that there is room. */
@@ -466,7 +462,6 @@ public final class PaletteReel {
             fresh = 1 << bits;
             end = fresh + 1;
             for (int code = 0; code < fresh; code++) {
-                starts[code] = code;
                 firsts[code] = code;
                 lasts[code] = code;
                 sizes[code] = 1;
@@ -490,7 +485,7 @@ public final class PaletteReel {
         int bits() {
             int greatest = before == NONE ? end : Math.min(next, LAST_ENTRY);
             int bits = 0;
-            while (bits < 6 && 1 << bits <= greatest) {
+            while (bits < LAST_ENTRY_BITS && 1 << bits <= greatest) {
                 bits++;
             }
             return bits;
@@ -963,7 +958,7 @@ public final class PaletteReel {
             mode = newMode;
             gatherColours(frame.width, frame.height);
             partBoxes(most);
-            frame.own.renew(1 << paletteBits(boxes));
+            frame.own.resize(1 << paletteBits(boxes));
             for (int box = 0; box < boxes; box++) {
                 means[box] = meanOf(box);
                 frame.own.put(box, means[box]);

@@ -307,6 +307,17 @@ public final class ReadTest {
         PaletteReel w = reads("an entry again and again", reel(frameOf(8, 1, 2,
             4, 3, 1, 3, 0, 3, 6, 3, 6, 4, 6, 4, 5, 4)), 1);
         Check.due("its pixels", Check.pixels(w, 0), "10101010");
+        int[] fresh = new int[2 * 2000];
+        for (int i = 0; i < 2000; i++) {
+            fresh[2 * i] = i < 1998 ? 4 : i == 1998 ? 1 : 5;
+            fresh[2 * i + 1] = 3;
+        }
+        List<Integer> all = Check.packed(fresh);
+        Check.due("750 bytes", all.size(), 750);
+        PaletteReel v = reads("some two thousand fresh ones", reel(Check.join(Check.list(44, 0, 0, 1, 1, 0, 2),
+            Check.block(all.subList(0, 255)), Check.block(all.subList(255, 510)),
+            Check.block(all.subList(510, 750)), Check.list(0))), 1);
+        Check.due("its pixel", v.pixelAt(0, 0, 0), 1);
     }
 
     private static void codesWrongly() {
@@ -349,6 +360,8 @@ public final class ReadTest {
         refuses("one pixel less", reel(frameOf(3, 1, 2, 4, 3, 1, 3, 0, 3, 5, 3)));
         refuses("one pixel more", reel(frameOf(1, 1, 2, 4, 3, 1, 3, 0, 3, 5, 3)));
         refuses("no pixel", reel(frameOf(1, 1, 2, 4, 3, 5, 3)));
+        refuses("no pixel and no width", reel(frameOf(0, 1, 2, 4, 3, 5, 3)));
+        refuses("no pixel and no height", reel(frameOf(1, 0, 2, 4, 3, 5, 3)));
         refuses("a string that goes beyond", reel(frameOf(2, 1, 2, 4, 3, 1, 3, 6, 3, 5, 3)));
         int[] many = new int[2 * 202];
         for (int i = 0; i < 202; i++) {
@@ -381,6 +394,17 @@ public final class ReadTest {
         Check.due("as many as there may be", most.size(), 800);
         reads("800 bytes", most, 0);
         refuses("800 bytes without an end", Check.join(HEAD, Collections.nCopies(789, 33)));
+        refuses("800 bytes that end in a comment", Check.join(HEAD, Check.list(254), Collections.nCopies(788, 1)));
+        List<Integer> settings = new ArrayList<>();
+        for (int i = 0; i < 197; i++) {
+            settings.addAll(SETTINGS);
+        }
+        reads("as many settings as there is room for", reel(settings), 0);
+        List<Integer> comments = new ArrayList<>();
+        for (int i = 0; i < 394; i++) {
+            comments.addAll(List.of(254, 0));
+        }
+        reads("as many comments as there is room for", reel(comments), 0);
     }
 
     private static void pictureAndCanvas() {

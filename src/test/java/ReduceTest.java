@@ -18,6 +18,7 @@ public final class ReduceTest {
         patternAbove();
         errorsInARow();
         errorsInTwoRows();
+        errorsBelow();
         patternKeepsInRange();
         Check.end();
     }
@@ -211,6 +212,19 @@ public final class ReduceTest {
         PaletteReel x = greys(4, 2, 120, 120, 120, 120, 120, 120, 150, 0);
         reduced(x, 2, 2, 2, "666666 969696", "0100/1010");
         reduced(x, 2, 0, 2, "666666 969696", "0000/0010");
+    }
+
+    /** 0 becomes 100, so 3 * 100 / 16 are taken from the 150 behind it, 100 / 16 from that ahead. */
+    private static void errorsBelow() {
+        int[] greatest = {194, 182, 170, 162};
+        String[] due = {"010", "011", "011", "111"};
+        for (int i = 0; i < 4; i++) {
+            int u = greatest[i];
+            String colours = "646464 " + Integer.toHexString(grey(u));
+            reduced(greys(3, 2, u, 0, u, 150, u, 150), 2, 2, 2, colours, "101/" + due[i]);
+            String back = new StringBuilder(due[i]).reverse().toString();
+            reduced(greys(3, 3, u, u, u, u, 0, u, 150, u, 150), 2, 2, 2, colours, "111/101/" + back);
+        }
     }
 
     /** 250 with 24 more is 255, not 274, and 5 with 24 less is 0: else the other box were nearer. */
