@@ -4,6 +4,8 @@ import java.util.Arrays;
 public final class PaletteReel {
     public static final int NONE = -1;
 
+    // Stands for the reel itself where a frame's number is asked for.
+    private static final int REEL = -1;
     private static final int MOST_FRAMES = 4;
     private static final int MOST_COLOURS = 16;
     private static final int MOST_BYTES = 800;
@@ -65,11 +67,11 @@ public final class PaletteReel {
 
     public int palette(int f, int bits) throws IndexOutOfBoundsException, IllegalArgumentException {
         requireOwner(f);
-        if (bits < (f == NONE ? 1 : 0) || bits > 4) {
+        if (bits < (f == REEL ? 1 : 0) || bits > 4) {
             throw new IllegalArgumentException("no such number of bits");
         }
         int wanted = bits == 0 ? 0 : 1 << bits;
-        if (!(f == NONE ? reel.allowsShared(wanted) : reel.allowsOwn(f, wanted))) {
+        if (!(f == REEL ? reel.allowsShared(wanted) : reel.allowsOwn(f, wanted))) {
             throw new IllegalArgumentException("a number would be none of its palette");
         }
         ownPalette(f).resize(wanted);
@@ -135,12 +137,12 @@ public final class PaletteReel {
         if (!isWithin(what, 0, 8)) {
             throw new IndexOutOfBoundsException("no such what");
         }
-        return f == NONE ? reel.tell(what) : reel.frames[f].tell(what);
+        return f == REEL ? reel.tell(what) : reel.frames[f].tell(what);
     }
 
     public int colourAt(int f, int k) throws IndexOutOfBoundsException {
         requireOwner(f);
-        Palette palette = f == NONE ? reel.shared : reel.paletteOf(reel.frames[f]);
+        Palette palette = f == REEL ? reel.shared : reel.paletteOf(reel.frames[f]);
         if (!palette.has(k)) {
             throw new IndexOutOfBoundsException("no such colour");
         }
@@ -233,7 +235,7 @@ public final class PaletteReel {
     }
 
     private void requireOwner(int f) {
-        if (f != NONE) {
+        if (f != REEL) {
             requireFrame(f);
         }
     }
@@ -259,7 +261,7 @@ public final class PaletteReel {
     }
 
     private Palette ownPalette(int f) {
-        return f == NONE ? reel.shared : reel.frames[f].own;
+        return f == REEL ? reel.shared : reel.frames[f].own;
     }
 
     private static boolean isWithin(int value, int low, int high) {
@@ -479,7 +481,7 @@ public final class PaletteReel {
         }
 
         private boolean makesEntry() {
-            return before != NONE && !isFull();
+            return before != NONE && next <= LAST_ENTRY;
         }
 
         int bits() {
@@ -788,20 +790,29 @@ public final class PaletteReel {
         }
 
         private void takeFrame(Reel reel) {
+            Frame frame = takePlace(reel);
+            takeFlags(frame);
+            takeColours(frame.own);
+            strings.begin(cursor.takeWithin(LEAST_CODE_BITS, MOST_CODE_BITS));
+            int lastBlock = cursor.takeBlocks(held);
+            bitsTaken = 0;
+            boolean ended = takeCode() == strings.fresh && takeStrings(frame);
+            boolean endedInLastBlock = ended && bitsTaken > lastBlock * 8;
+            if (!endedInLastBlock || !frame.fitsIn(reel.paletteOf(frame).count)) {
+                cursor.refuse();
+            }
+        }
+
+        private Frame takePlace(Reel reel) {
             int left = cursor.takeWithin(0, SIDE - 1);
             int top = cursor.takeWithin(0, SIDE - 1);
             int width = cursor.takeWithin(1, SIDE);
             int height = cursor.takeWithin(1, SIDE);
             Frame frame = reel.add(left, top, width, height);
-            takeFlags(frame);
-            takeColours(frame.own);
             frame.disposal = disposal;
             frame.delay = delay;
             frame.clear = clear;
-            takeData(frame);
-            if (!frame.fitsIn(reel.paletteOf(frame).count)) {
-                cursor.refuse();
-            }
+            return frame;
         }
 
         private void takeFlags(Frame frame) {
@@ -810,16 +821,6 @@ public final class PaletteReel {
             if ((flags & HAS_PALETTE) != 0) {
                 frame.own.resize(2 << (flags >> PALETTE_SHIFT));
             } else if (flags > IS_WOVEN) {
-                cursor.refuse();
-            }
-        }
-
-        private void takeData(Frame frame) {
-            strings.begin(cursor.takeWithin(LEAST_CODE_BITS, MOST_CODE_BITS));
-            int lastBlock = cursor.takeBlocks(held);
-            bitsTaken = 0;
-            boolean ended = takeCode() == strings.fresh && takeStrings(frame);
-            if (!ended || bitsTaken <= lastBlock * 8) {
                 cursor.refuse();
             }
         }
