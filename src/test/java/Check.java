@@ -9,6 +9,9 @@ final class Check {
 
     private static int asked;
     private static int wrong;
+    private static int sentences;
+    private static int askedBefore;
+    private static String sentence = "";
 
     private Check() {
     }
@@ -34,8 +37,24 @@ final class Check {
     private static void tell(String text) {
         wrong++;
         if (wrong <= 50) {
-            System.out.println(text);
+            System.out.println(sentence + text);
         }
+    }
+
+    /** From here on the answers are about these words of the document. */
+    static void says(String where, String words) {
+        leaveSentence();
+        sentences++;
+        sentence = "[" + where + ": " + words + "] ";
+    }
+
+    /** A sentence that nothing was asked about would pass whatever the program did. */
+    private static void leaveSentence() {
+        if (!sentence.isEmpty() && asked == askedBefore) {
+            tell("nothing was asked");
+        }
+        askedBefore = asked;
+        sentence = "";
     }
 
     static void noIndex(String what, Call call) {
@@ -65,7 +84,9 @@ final class Check {
     }
 
     static void end() {
-        System.out.println(asked + " answers, " + wrong + " of them not as due");
+        leaveSentence();
+        System.out.println((sentences == 0 ? "" : sentences + " sentences, ")
+            + asked + " answers, " + wrong + " of them not as due");
         if (wrong != 0) {
             System.exit(1);
         }
@@ -84,7 +105,8 @@ final class Check {
                 text.append(reel.get(f, what)).append(' ');
             }
             int own = reel.get(f, 4);
-            for (int k = 0; k < (own > 0 ? own : reel.get(-1, 4)); k++) {
+            int colours = own > 0 ? own : reel.get(-1, 4);
+            for (int k = 0; k < colours; k++) {
                 text.append(Integer.toHexString(reel.colourAt(f, k))).append(' ');
             }
             text.append(f < 0 ? "" : pixels(reel, f)).append("]");
@@ -94,9 +116,11 @@ final class Check {
 
     static String pixels(PaletteReel reel, int f) {
         StringBuilder text = new StringBuilder();
-        for (int y = 0; y < reel.get(f, 3); y++) {
+        int width = reel.get(f, 2);
+        int height = reel.get(f, 3);
+        for (int y = 0; y < height; y++) {
             text.append(y == 0 ? "" : "/");
-            for (int x = 0; x < reel.get(f, 2); x++) {
+            for (int x = 0; x < width; x++) {
                 text.append(Integer.toHexString(reel.pixelAt(f, x, y)));
             }
         }
@@ -105,9 +129,11 @@ final class Check {
 
     static String canvas(PaletteReel reel) {
         StringBuilder text = new StringBuilder();
-        for (int y = 0; y < reel.get(-1, 3); y++) {
+        int width = reel.get(-1, 2);
+        int height = reel.get(-1, 3);
+        for (int y = 0; y < height; y++) {
             text.append(y == 0 ? "" : "/");
-            for (int x = 0; x < reel.get(-1, 2); x++) {
+            for (int x = 0; x < width; x++) {
                 int colour = reel.shown(x, y);
                 text.append(x == 0 ? "" : " ");
                 text.append(colour == PaletteReel.NONE ? "-" : Integer.toHexString(colour));
@@ -118,8 +144,10 @@ final class Check {
 
     static String bytes(PaletteReel reel) {
         StringBuilder text = new StringBuilder();
-        for (int k = 0; reel.byteAt(k) != PaletteReel.NONE; k++) {
-            text.append(k == 0 ? "" : " ").append(reel.byteAt(k));
+        int k = 0;
+        for (int value = reel.byteAt(0); value != PaletteReel.NONE; value = reel.byteAt(k)) {
+            text.append(k == 0 ? "" : " ").append(value);
+            k++;
         }
         return text.toString();
     }

@@ -7,12 +7,15 @@ public final class ModelTest {
         "get", "colourAt", "pixelAt", "write", "feed", "wipe", "spoil", "byteAt", "read", "draw", "shown",
         "paint", "reduce"};
     private static final int CALLS = 100;
-    private static final int RUNS = 12000;
+    private static final int RUNS = 15000;
+    // An object is used for so many calls, and what it answers then is free.
+    private static final int CALLS_OF_ONE = 512;
 
     private final Random random;
     private final PaletteReel own;
     private final Model model;
     private final StringBuilder told = new StringBuilder();
+    private int used;
     private static int reads;
     private static int refused;
 
@@ -74,11 +77,18 @@ public final class ModelTest {
         return true;
     }
 
+    /** Whether the object may be used for so many calls more; they are counted then. */
+    private boolean mayUse(int calls) {
+        boolean may = used + calls <= CALLS_OF_ONE;
+        used += may ? calls : 0;
+        return may;
+    }
+
     private boolean looseBytes() {
-        int width = chance(50) ? own.get(-1, 2) : any(1, 8);
-        int height = chance(50) ? own.get(-1, 3) : any(1, 8);
+        int width = chance(50) ? model.width : any(1, 8);
+        int height = chance(50) ? model.height : any(1, 8);
         List<Integer> bytes = new LooseReel(random).make(width, height);
-        if (bytes.size() > 800) {
+        if (bytes.size() > 800 || !mayUse(1 + (bytes.size() + 7) / 8)) {
             return true;
         }
         Check.give(own, bytes);
@@ -89,11 +99,15 @@ public final class ModelTest {
     }
 
     private boolean fillPicture() {
+        if (!mayUse(model.width * model.height)) {
+            return true;
+        }
         int few = any(1, 20);
         int step = chance(50) ? 1 : chance(50) ? 16 : 64;
         int[] colours = new int[few];
         for (int k = 0; k < few; k++) {
-            colours[k] = chance(40) ? random.nextInt() : any(0, 3) * 65536 * step + any(0, 3) * 256 * step + any(0, 3) * step;
+            int stepped = any(0, 3) * 65536 * step + any(0, 3) * 256 * step + any(0, 3) * step;
+            colours[k] = chance(40) ? random.nextInt() : stepped;
         }
         for (int y = 0; y < model.height; y++) {
             for (int x = 0; x < model.width; x++) {
@@ -109,7 +123,7 @@ public final class ModelTest {
 
     private boolean fillFrame() {
         int f = any(0, 3);
-        if (f >= model.pics.size()) {
+        if (f >= model.pics.size() || !mayUse(model.get(f, 2) * model.get(f, 3))) {
             return true;
         }
         int few = any(1, model.pics.get(f).own == null ? model.palette.size() : model.pics.get(f).own.size());
@@ -118,7 +132,8 @@ public final class ModelTest {
                 int number = random.nextInt(few);
                 own.pixel(f, x, y, number);
                 model.pixel(f, x, y, number);
-                told.append("\n  pixel ").append(f).append(' ').append(x).append(' ').append(y).append(' ').append(number);
+                told.append("\n  pixel ").append(f).append(' ').append(x).append(' ').append(y).append(' ')
+                    .append(number);
             }
         }
         return ask(10, 0, 0, 0, 0, 0) && ask(15, 0, 0, 0, 0, 0);
@@ -171,6 +186,9 @@ public final class ModelTest {
 
     /** Whether both answer the same; if not, the run is told. */
     private boolean ask(int op, int a, int b, int c, int d, int e) {
+        if (!mayUse(1)) {
+            return true;
+        }
         String mine = answer(() -> ofOwn(op, a, b, c, d, e));
         String due = answer(() -> ofModel(op, a, b, c, d, e));
         told.append("\n  ").append(NAMES[op]).append('(').append(a).append(", ").append(b).append(", ")
