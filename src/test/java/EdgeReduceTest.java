@@ -113,11 +113,11 @@ public final class EdgeReduceTest {
             Check.due("pixels of " + n, Check.pixels(x, 0), Check.pixels(fresh, 0));
         }
         PaletteReel y = row(0, 60, 100, 120, 200, 210, 220, 230);
-        y.reduce(8, 0);
+        y.reduce(3, 0);
         for (int i = 0; i < 8; i++) {
             y.paint(i, 0, new int[] {0, 1, 2, 2, 100, 101, 102, 103}[i]);
         }
-        due("eight, then three", y, 3, 3, "1 64 66 0");
+        due("three, then three others", y, 3, 3, "1 64 66 0");
     }
 
     private static void many(PaletteReel x, int step) {
@@ -298,6 +298,14 @@ public final class EdgeReduceTest {
             Check.due("of one colour", colours(x), "0 0");
             Check.due("the first such", Check.pixels(x, 0), "0000");
         }
+        // 0x646464 is in the first box, but it is the colour of the second.
+        PaletteReel z = row(0x646464, 0x466464, 0x646E64, 0x655A64);
+        for (int mode = 0; mode <= 2; mode++) {
+            z.cut();
+            z.reduce(2, mode);
+            Check.due("their colours", colours(z), "556464 646464");
+            Check.due("the colour of another box in mode " + mode, z.pixelAt(0, 0, 0), 1);
+        }
         // 100 and 110: neither numbers of places nor errors move them.
         PaletteReel y = new PaletteReel(8, 8);
         for (int i = 0; i < 64; i++) {
@@ -363,6 +371,10 @@ public final class EdgeReduceTest {
             x.paint(0, 0, given[i]);
             x.reduce(1, 0);
             Check.due("of " + given[i], x.colourAt(0, 0), due[i]);
+            PaletteReel y = new PaletteReel(2, 1);
+            y.paint(0, 0, given[i]);
+            y.paint(1, 0, due[i]);
+            Check.due("the same colour as " + due[i], y.reduce(2, 0), 1);
         }
     }
 
