@@ -114,7 +114,8 @@ public final class EdgeModesTest {
 
     /** The boxes' colours are 100 and 150, so 125 is the last that goes to the first. */
     private static void roundedTowardZero() {
-        Check.says("Terms", "with the error that came to the place / 16 (rounded toward 0) added");
+        Check.says("Terms", "the nearest to red, green, blue each with the error that came to the place / 16"
+            + " (rounded toward 0) added");
         int[] sixteenths = {0, 0, 0, 1, 1, 2, 2, 3, 3, 3, 4, 4, 5};
         for (int d = -12; d <= 12; d++) {
             int error = d < 0 ? -sixteenths[-d] : sixteenths[d];

@@ -280,8 +280,8 @@ public final class EdgeReelTest {
     // Promise 2
 
     private static void coloursThatStay() {
-        Check.says("Promise 2", "becomes 2 to the power of bits colours, those that it had"
-            + " (none for a frame that had none of its own) and others 0");
+        Check.says("Promise 2", "The palette (of frame f, or of the reel with f = -1) becomes 2 to the power of bits"
+            + " colours, those that it had (none for a frame that had none of its own) and others 0");
         for (int f = -1; f <= 0; f++) {
             for (int from = f == -1 ? 1 : 0; from <= 4; from++) {
                 for (int to = 1; to <= 4; to++) {

@@ -111,7 +111,7 @@ public final class EdgeWellFormedTest {
     }
 
     private static void cutBytes() {
-        Check.says("Terms", "READING takes any bytes that are a reel so");
+        Check.says("Terms", "READING takes any bytes that are a reel so, but for the following");
         PaletteReel x = Scene.full();
         int length = x.write();
         List<Integer> good = new ArrayList<>();

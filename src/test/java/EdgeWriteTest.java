@@ -14,6 +14,7 @@ public final class EdgeWriteTest {
     }
 
     public static void main(String[] args) {
+        rangeOfTheBytes();
         headOfTheBytes();
         palettesInTheBytes();
         settingsInTheBytes();
@@ -92,6 +93,21 @@ public final class EdgeWriteTest {
 
     // The bytes
 
+    private static void rangeOfTheBytes() {
+        Check.says("Terms", "THE BYTES (0 .. 255) of a reel");
+        int[] numbers = differentPairs(16, 64);
+        PaletteReel x = reel(4, 8, 8, numbers);
+        for (int k = 0; k < 16; k++) {
+            x.colour(-1, k, k % 2 == 0 ? 0xFF80FE : 0x7FFF00);
+        }
+        x.set(0, 3, 255, 15, true);
+        int length = x.write();
+        for (int k = 0; k < length; k++) {
+            Check.due("byte " + k + " is 0 .. 255", x.byteAt(k) >= 0 && x.byteAt(k) <= 255, true);
+        }
+        Check.due("no byte behind the last", x.byteAt(length), PaletteReel.NONE);
+    }
+
     private static void headOfTheBytes() {
         Check.says("Terms", "80, 49, width, height, and 0 .. 3 for a palette of 2, 4, 8 or 16");
         int[][] sizes = {{1, 1}, {8, 1}, {1, 8}, {8, 8}, {3, 5}};
@@ -147,7 +163,8 @@ public final class EdgeWriteTest {
 
     private static void placesInTheBytes() {
         Check.says("Terms", "then 44, left, top, width, height, and a byte that is 1 when it is woven, and"
-            + " 2 + 4 * (0 .. 3) more when it has a palette of its own (2, 4, 8, 16), and that palette");
+            + " 2 + 4 * (0 .. 3) more when it has a palette of its own (2, 4, 8, 16), and that palette; then m,"
+            + " and DATA");
         int[] flags = {0, 2, 6, 10, 14};
         int[][] places = {{0, 0, 1, 1}, {7, 0, 1, 8}, {0, 7, 8, 1}, {7, 7, 8, 8}};
         for (int[] place : places) {
@@ -167,7 +184,7 @@ public final class EdgeWriteTest {
         if (n > 0) {
             x.colour(0, n - 1, 0x0A0B0C);
         }
-        x.write();
+        int length = x.write();
         Check.due("44", x.byteAt(15), 44);
         for (int i = 0; i < 4; i++) {
             Check.due("byte " + i + " behind 44", x.byteAt(16 + i), place[i]);
@@ -178,6 +195,9 @@ public final class EdgeWriteTest {
             Check.due("blue of the last colour", x.byteAt(20 + 3 * n), 12);
         }
         Check.due("m behind", x.byteAt(21 + 3 * n), n < 8 ? 2 : n == 8 ? 3 : 4);
+        int block = x.byteAt(22 + 3 * n);
+        Check.due("one block of data, 0 and 59 behind m", length, 22 + 3 * n + 1 + block + 2);
+        Check.due("0 behind the data", x.byteAt(length - 2), 0);
     }
 
     private static void lastByte() {
